@@ -403,7 +403,7 @@ public final class ParishRaffle {
         for (int won = 0; won < 1 << draws; won++) {
             int times = Integer.bitCount(won);
             long ways = falling(own, times) * falling(all - own, draws - times);
-            sum += ways * parish.worthTo(p, has | won << now.next());
+            sum += ways * parish.worthTo(p, has | (won << now.next()));
         }
         return sum;
     }
@@ -559,11 +559,11 @@ public final class ParishRaffle {
         }
 
         /** The letter at hand, which is read then; 0, which no text holds, behind the last one. */
-        private char nextLetter() {
+        private int nextLetter() {
             if (at >= length) {
                 return 0;
             }
-            char letter = letters[at];
+            int letter = letters[at];
             at++;
             return letter;
         }
@@ -970,7 +970,7 @@ public final class ParishRaffle {
             }
             int value = bestSharing(parish, stand.ownedSet());
             int code = (sumIn(value) << CODE_BITS) - value;
-            return code >> placeOf(t) & (1 << WHO_BITS) - 1;
+            return (code >> placeOf(t)) & ((1 << WHO_BITS) - 1);
         }
 
         /**
@@ -995,7 +995,7 @@ public final class ParishRaffle {
             for (int set = 0; set <= all; set++) {
                 int code = 0;
                 for (int t = 0; t < parish.things; t++) {
-                    code += (set >> t & 1) * p << placeOf(t);
+                    code += ((set >> t & 1) * p) << placeOf(t);
                 }
                 gains[set] = (parish.worthTo(p, set) << CODE_BITS) - code;
             }
@@ -1004,7 +1004,7 @@ public final class ParishRaffle {
         /** The best for a set, one person having some of it, those ahead of it the others. */
         private int bestWith(int set) {
             int most = best[set];
-            for (int part = set; part > 0; part = part - 1 & set) {
+            for (int part = set; part > 0; part = (part - 1) & set) {
                 most = Math.max(most, gains[part] + best[set ^ part]);
             }
             return most;
@@ -1014,8 +1014,9 @@ public final class ParishRaffle {
             return WHO_BITS * (MAX_THINGS - 1 - t);
         }
 
+        /** Rounds up, since the code was taken away. */
         private static int sumIn(int value) {
-            return value + (1 << CODE_BITS) - 1 >> CODE_BITS;
+            return (value + (1 << CODE_BITS) - 1) >> CODE_BITS;
         }
 
         int firstEnvy(Parish parish, Stand stand) {
