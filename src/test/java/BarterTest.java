@@ -50,6 +50,8 @@ public final class BarterTest {
   private static void gives() {
     gives("p9;p9;t0,3;", NONE, 0);
     gives("p9;p9;t1,3;", NONE, 0);
+    gives("p9;p9;p9;p9;p9;t0,3;", NONE, 4);
+    gives("p9;p9;p9;p9;p9;t1,3;l4,0,3;", 4, 3);
     // worth 0 to who gets it, less than 0 to who has it
     gives("p9;p9;t1,3;l1,0,3;", 1, 0);
     gives("p9;p9;p9;t1,3;l2,0,3;", 2, 0);

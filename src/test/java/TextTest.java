@@ -78,13 +78,17 @@ public final class TextTest {
     for (String text : texts) {
       CHECK.due("fault() of " + text, faultOf(text), ParishRaffle.NONE);
     }
-    // 200 letters, all of them good ones
-    StringBuilder s = new StringBuilder("p1;t0,01;");
-    while (s.length() < 198) {
+    CHECK.due("fault() of 200 letters", faultOf(longText("p01;t00,01;", 200)), ParishRaffle.NONE);
+    CHECK.due("lay() of 200 letters", Check.laid(longText("p01;t00,01;", 200)).count(9), 200);
+  }
+
+  /** A text of so many letters, told to its end by likes, and cut there. */
+  private static String longText(String begin, int letters) {
+    StringBuilder s = new StringBuilder(begin);
+    while (s.length() < letters) {
       s.append("l0,0,1;");
     }
-    s.setLength(198);
-    CHECK.due("fault() of 198 letters", faultOf(s.toString()), ParishRaffle.NONE);
+    return s.substring(0, letters);
   }
 
   private static void fault(String text, int place) {
@@ -128,6 +132,15 @@ public final class TextTest {
     fault("p1;t0,1;l0,0,1,1;", 8);
     fault("p1;t0,1;l0,0,1;l0,0,1", 15);
     fault("p1;t0,1;l0;0;1;", 8);
+    // cut at each letter of the last item
+    for (int end = 194; end < 200; end++) {
+      fault(longText("p01;t00,01;", end), 193);
+    }
+    for (int begin = 4; begin < 11; begin++) {
+      fault(longText("p01;t00,01;".substring(0, begin), 200), 4);
+    }
+    fault(longText("p01;t0,01;", 199) + "p", 199);
+    fault(longText("p1;t0,01;", 198) + "p1", 198);
   }
 
   private static void lay() {
