@@ -92,6 +92,7 @@ public final class EdgeBarterTest {
 
   private static void swapsOfUnlikePersons() {
     EDGES.due("swaps(), one has both", with("p9;p9;t0,1;t0,1;l1,0,9;l1,1,9;", 0, 0).swaps(), NONE);
+    EDGES.due("swaps() of a single bad one", with(FIVE + "t1,9;", 0).swaps(), NONE);
     EDGES.due("swaps(), one is not drawn", with("p9;p9;t0,1;t0,1;l0,1,9;l1,0,9;", 0).swaps(), NONE);
     ParishRaffle x = with("p9;p9;t0,1;t0,1;l0,1,9;l1,0,9;", 0, 1);
     EDGES.due("swaps()", x.swaps(), 1);
@@ -265,7 +266,12 @@ public final class EdgeBarterTest {
     EDGES.due("ring() of a row", ring("l0,1,1;l1,2,1;l2,3,1;l3,4,1;"), NONE);
     EDGES.due("ring() of a row backwards", ring("l4,3,1;l3,2,1;l2,1,1;l1,0,1;"), NONE);
     EDGES.due("ring(), all envying one", ring("l0,4,1;l1,4,1;l2,4,1;l3,4,1;"), NONE);
-    EDGES.due("ring() of two persons", with("p9;p9;t0,1;t0,1;l0,1,1;l1,0,1;", 0, 1).ring(), 2);
+    ParishRaffle x = with("p9;p9;t0,1;t0,1;l0,1,1;l1,0,1;", 0, 1);
+    EDGES.due("ring() of two persons", x.ring(), 2);
+    x.swap(0, 1);
+    EDGES.due("ring(), both having what they like", x.ring(), NONE);
+    x.undo();
+    EDGES.due("ring(), the swap undone", x.ring(), 2);
   }
 
   private static void ringOfFewest() {

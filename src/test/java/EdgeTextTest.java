@@ -297,6 +297,14 @@ public final class EdgeTextTest {
       x.lay();
       return x;
     }, () -> Check.laid("p2;p3;t0,5;t1,6;l1,0,7;"));
+    // what was refused may be refused again
+    EDGES.alike("laid behind a refusal", () -> {
+      ParishRaffle x = Check.laid("p2;p3;t0,5;t1,6;");
+      x.draw(0);
+      x.refuse();
+      x.lay();
+      return x;
+    }, () -> Check.laid("p2;p3;t0,5;t1,6;"));
     ParishRaffle y = Parishes.brim();
     EDGES.due("lay()", y.lay(), 5);
     EDGES.due("undo() then", y.undo(), NO);

@@ -92,6 +92,7 @@ public final class EdgeYearTest {
       EDGES.due("bare: year(" + z + ", 60, 0)", Parishes.bare().year(z, 60, 0), 0);
       EDGES.due("thingless: year(" + z + ", 60, 1)", Parishes.thingless().year(z, 60, 1), 1000);
       yearAsByActs("one thing", () -> Check.laid("p0;t1,30;"), z, 60);
+      yearAsByActs("one thing of many", () -> Check.laid("p1;p1;p0;t0,3;l0,0,1;l1,0,2;l2,0,4;"), z, 60);
     }
   }
 
