@@ -23,6 +23,7 @@ public final class FaceTest {
   public static void main(String[] args) throws Exception {
     constants();
     members();
+    insides();
     words(Files.readString(Path.of(args.length > 0 ? args[0] : "src/main/java/ParishRaffle.java")));
     CHECK.end();
   }
@@ -70,6 +71,39 @@ public final class FaceTest {
       yes(in + " is private and static", Modifier.isPrivate(in.getModifiers())
           && Modifier.isStatic(in.getModifiers()));
     }
+  }
+
+  /** Rules 1, 5 and 11: names of private methods, static fields, how many of everything. */
+  private static void insides() {
+    Set<String> names = new TreeSet<>();
+    for (String call : FACE) {
+      names.add(call.substring(call.indexOf(' ') + 1, call.indexOf('(')));
+    }
+    Class<?>[] inside = ParishRaffle.class.getDeclaredClasses();
+    yes("twelve classes at most", inside.length < 12);
+    inspect(ParishRaffle.class, names);
+    for (Class<?> in : inside) {
+      inspect(in, names);
+    }
+  }
+
+  private static void inspect(Class<?> c, Set<String> face) {
+    for (Method m : c.getDeclaredMethods()) {
+      yes(m + " takes seven at most", m.getParameterCount() <= 7);
+      if (Modifier.isPrivate(m.getModifiers()) || c != ParishRaffle.class) {
+        yes(m + " has a name of its own", !face.contains(m.getName()));
+      }
+    }
+    int fields = 0;
+    for (Field f : c.getDeclaredFields()) {
+      if (Modifier.isStatic(f.getModifiers())) {
+        yes(f + " is a constant", Modifier.isFinal(f.getModifiers())
+            && (f.getType().isPrimitive() || f.getType() == String.class));
+      } else {
+        fields++;
+      }
+    }
+    yes(c + " has twenty fields at most", fields <= 20);
   }
 
   private static void words(String source) {
